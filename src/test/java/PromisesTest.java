@@ -528,6 +528,13 @@ public final class PromisesTest {
         due("law 1: all bring as much", orders(x), "45 1 2 3 4 5 0");
         play(x, "543210");
         due("from the first by digits on", orders(x), "45 1 2 3 4 5 0");
+        for (int act = 5; act > 0; act--) {
+            x.must(act, act - 1);
+        }
+        due("the last by digits", orders(x), "45 5 4 3 2 1 0");
+        // 9, 7, 4, 0, 0 less 5, 6, 7, 8, 9: none stays for more than three acts.
+        x = with(5, "aaejh");
+        due("the first of those that bring 18", orders(x), "18 2 4 3 0 1");
     }
 
     private static void claque() {
@@ -573,6 +580,7 @@ public final class PromisesTest {
         due("no friends", seats(x), "0 0 1 2 3");
         due("friends(7, 6)", x.friends(7, 6), 1);
         due("friends(0, 7)", x.friends(0, 7), 1);
+        due("friends(5, 0)", x.friends(5, 0), 1);
         due("who do not come", seats(x), "0 0 1 2 3");
         due("friends(3, 1)", x.friends(3, 1), 1);
         due("friends(1, 3)", x.friends(1, 3), 1);
@@ -838,6 +846,7 @@ public final class PromisesTest {
         due("three evenings", x.year(0, 3, 0), 65);
         due("the greatest", x.year(0, 3, 1), 25);
         due("29092: bits 2 5 7", x.year(9999, 1, 0), 15);
+        due("99 evenings", x.year(0, 99, 1), 35);
         x.leave(3);
         due("without one", x.year(0, 3, 0), 50);
         due("the greatest", x.year(0, 3, 1), 20);
