@@ -865,6 +865,7 @@ public final class ActsPaid {
             there = new int[BASES * BASES];
         }
 
+        /** The sums run on behind the last act, where no place asks for them any more. */
         void send(Stage stage, int guest) {
             int most = 0;
             int hasHere = 0;

@@ -211,6 +211,12 @@ public final class PromisesTest {
         }
         due("no friends", seats(x), "0 0 1 2 3");
         due("forget()", x.forget(), 0);
+        // 1 and 2 leave at once; 0 sits far from 1, whose friend it was.
+        come(x, 1, "aaa");
+        come(x, 2, "aaa");
+        x.friends(1, 3);
+        x.friends(2, 0);
+        due("other friends", seats(x), "0 1 3 0 2");
         due("restore(1)", x.restore(1), 1);
         due("told(2)", x.told(2), 7);
     }
@@ -612,6 +618,10 @@ public final class PromisesTest {
         x.friends(0, 2);
         x.friends(3, 1);
         due("a chain", seats(x), "1 1 3 0 2");
+        x = with(1, "a", "z", "z");
+        x.friends(0, 1);
+        x.friends(0, 2);
+        due("who leaves in the middle", seats(x), "1 1 0 2");
         x = with(3, "zga", "gaa", "zga");
         due("all behind the first", seats(x), "0 0 1 2");
         x.set(2, 1);
