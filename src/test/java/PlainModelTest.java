@@ -811,8 +811,9 @@ public final class PlainModelTest {
             for (int g = 0; g < 8; g++) {
                 if (comes(g)) {
                     BigInteger[] more = new BigInteger[10000];
+                    int pays = leaves(g, 1);
                     for (int sum = 0; sum < 10000; sum++) {
-                        int before = sum - leaves(g, 1);
+                        int before = sum - pays;
                         more[sum] = ways[sum].multiply(BigInteger.valueOf(10 - c))
                             .add(before < 0 ? BigInteger.ZERO : ways[before].multiply(BigInteger.valueOf(c)));
                     }

@@ -1,22 +1,16 @@
 /** What each promise says, one method a promise: ordinary inputs, the named edges, wrong inputs. */
-public final class PromisesTest {
-    private static final int NONE = -6, UNKNOWN = -1, OUTSIDE = -2, STATE = -3, FULL = -4, NO = -5;
+public final class PromisesTest extends Kit {
     private static final int[] FAR = {Integer.MIN_VALUE, -1000, -2, 100000, Integer.MAX_VALUE};
 
-    private static int wrong = 0;
-    private static int promise = 0;
-
     public static void main(String[] args) {
-        for (promise = 1; promise <= 31; promise++) {
-            test();
+        for (int promise = 1; promise <= 31; promise++) {
+            about("promise " + promise);
+            test(promise);
         }
-        System.out.println(wrong == 0 ? "promises 1 to 31 hold" : wrong + " answers are not as due");
-        if (wrong != 0) {
-            System.exit(1);
-        }
+        end("promises 1 to 31 hold");
     }
 
-    private static void test() {
+    private static void test(int promise) {
         switch (promise) {
             case 1: newObject(); break;
             case 2: acts(); break;
@@ -50,111 +44,6 @@ public final class PromisesTest {
             case 30: restore(); break;
             default: told(); break;
         }
-    }
-
-    private static void due(String what, long got, long want) {
-        due(what, Long.toString(got), Long.toString(want));
-    }
-
-    private static void due(String what, String got, String want) {
-        if (!got.equals(want)) {
-            wrong++;
-            System.out.println("promise " + promise + ": " + what + " answered " + got + ", due is " + want);
-        }
-    }
-
-    private static void write(ActsPaid x, String text) {
-        x.wipe();
-        for (int i = 0; i < text.length(); i++) {
-            x.say(text.charAt(i));
-        }
-    }
-
-    private static int come(ActsPaid x, int guest, String text) {
-        write(x, text);
-        return x.guest(guest);
-    }
-
-    private static int play(ActsPaid x, String text) {
-        write(x, text);
-        return x.play();
-    }
-
-    private static int fault(ActsPaid x, String text, int how) {
-        write(x, text);
-        return x.fault(how);
-    }
-
-    /** A theatre of so many acts; "" is a guest who does not come. */
-    private static ActsPaid with(int acts, String... guests) {
-        ActsPaid x = new ActsPaid();
-        x.acts(acts);
-        for (int guest = 0; guest < guests.length; guest++) {
-            if (!guests[guest].isEmpty() && come(x, guest, guests[guest]) < 0) {
-                throw new IllegalStateException("no guest: " + guests[guest]);
-            }
-        }
-        return x;
-    }
-
-    private static String toldFrom(ActsPaid x, int first, int many) {
-        StringBuilder all = new StringBuilder();
-        for (int what = first; what < first + many; what++) {
-            all.append(' ').append(x.told(what));
-        }
-        return all.substring(1);
-    }
-
-    /** The head (i = -1), then all items till NONE, then one more. */
-    private static String seats(ActsPaid x) {
-        StringBuilder all = new StringBuilder().append(x.seating(-1));
-        int i = 0;
-        while (i < 9 && x.seating(i) != NONE) {
-            all.append(' ').append(x.seating(i++));
-        }
-        return all.append(x.seating(i + 1) == NONE ? "" : " and more").toString();
-    }
-
-    private static String orders(ActsPaid x) {
-        StringBuilder all = new StringBuilder().append(x.order(-1));
-        int i = 0;
-        while (i < 9 && x.order(i) != NONE) {
-            all.append(' ').append(x.order(i++));
-        }
-        return all.append(x.order(i + 1) == NONE ? "" : " and more").toString();
-    }
-
-    private static String resting(ActsPaid x) {
-        StringBuilder all = new StringBuilder().append(x.rests(-1));
-        int i = 0;
-        while (i < 101 && x.rests(i) != NONE) {
-            all.append(' ').append(x.rests(i++));
-        }
-        return all.append(x.rests(i + 1) == NONE ? "" : " and more").toString();
-    }
-
-    private static String ofGuest(ActsPaid x, int guest) {
-        return x.leaves(guest, 0) + " " + x.leaves(guest, 1) + " " + x.leaves(guest, 2);
-    }
-
-    private static String bestFares(ActsPaid x) {
-        return x.fares(0) + " " + x.fares(1) + " " + x.fares(2);
-    }
-
-    private static String weeping(ActsPaid x, int v) {
-        return x.claque(v, 0) + " " + x.claque(v, 1);
-    }
-
-    private static String goes(ActsPaid x, int guest) {
-        return x.over(guest, 0) + " " + x.over(guest, 1);
-    }
-
-    private static String fitting(ActsPaid x, int guest, int act) {
-        return x.fits(guest, act, 0) + " " + x.fits(guest, act, 1) + " " + x.fits(guest, act, 2);
-    }
-
-    private static String fraction(ActsPaid x, int takings, int c) {
-        return x.odds(takings, c, 0) + "/" + x.odds(takings, c, 1);
     }
 
     private static void newObject() {
